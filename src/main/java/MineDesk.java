@@ -142,6 +142,7 @@ public final class MineDesk {
         if (advice.grade == 0) {
             return 0;
         }
+        advice.explain();
         return 1 + 2 * advice.cell + (advice.mined ? 1 : 0);
     }
 
@@ -652,22 +653,16 @@ public final class MineDesk {
             int start = partStart[parts];
             int end = admit(number, start);
             for (int i = start; i < end && i < CELLS; i++) {
-                end = admitNumbersAround(cells[i], end);
+                for (int j = cells[i] * Grid.MOST_NEAR; j < grid.nearEnd[cells[i]]; j++) {
+                    int other = grid.near[j];
+                    if (chosen[other] && partOf[other] == NONE) {
+                        end = admit(other, end);
+                    }
+                }
             }
             parts++;
             partStart[parts] = end;
             longest = Math.max(longest, end - start);
-        }
-
-        private int admitNumbersAround(int cell, int end) {
-            int last = end;
-            for (int i = cell * Grid.MOST_NEAR; i < grid.nearEnd[cell]; i++) {
-                int number = grid.near[i];
-                if (chosen[number] && partOf[number] == NONE) {
-                    last = admit(number, last);
-                }
-            }
-            return last;
         }
 
         private int admit(int number, int end) {
@@ -728,7 +723,7 @@ public final class MineDesk {
         private final int[] groupSafeSet = new int[LONGEST];
         private int groups;
         private int askedGroup;
-        private int part;
+        private int taken;
 
         Survey(Border border) {
             this.border = border;
@@ -743,7 +738,7 @@ public final class MineDesk {
             if (border.sizeOf(part) > LONGEST) {
                 return;
             }
-            this.part = part;
+            taken = part;
             formGroups();
             askedGroup = asked == NONE ? NONE : groupOf[asked];
             clear();
@@ -756,18 +751,18 @@ public final class MineDesk {
         }
 
         private void clear() {
-            for (int mines = 0; mines <= border.sizeOf(part); mines++) {
-                tally[tallyStart(part) + mines] = 0;
+            for (int mines = 0; mines <= border.sizeOf(taken); mines++) {
+                tally[tallyStart(taken) + mines] = 0;
             }
             Arrays.fill(askedTally, 0);
             Arrays.fill(groupMinedSet, 0);
             Arrays.fill(groupSafeSet, 0);
-            partSet[part] = 0;
+            partSet[taken] = 0;
         }
 
         private void formGroups() {
             groups = 0;
-            for (int i = border.partStart[part]; i < border.partStart[part + 1]; i++) {
+            for (int i = border.partStart[taken]; i < border.partStart[taken + 1]; i++) {
                 int cell = border.cells[i];
                 listLinks(cell);
                 int group = groupLikeTheLast();
@@ -846,8 +841,8 @@ public final class MineDesk {
 
         private void record(int mines, int number) {
             int bit = 1 << mines;
-            tally[tallyStart(part) + mines] += number;
-            partSet[part] |= bit;
+            tally[tallyStart(taken) + mines] += number;
+            partSet[taken] |= bit;
             for (int group = 0; group < groups; group++) {
                 if (pick[group] > 0) {
                     groupMinedSet[group] |= bit;
@@ -907,7 +902,9 @@ public final class MineDesk {
             if (border.isTooLong()) {
                 return;
             }
-            takeAllBut(NONE);
+            for (int part = 0; part < border.parts; part++) {
+                survey.take(part, NONE);
+            }
             for (int part = 0; part < border.parts; part++) {
                 int fitting = fittingSet(part);
                 for (int i = border.partStart[part]; i < border.partStart[part + 1]; i++) {
@@ -998,6 +995,7 @@ public final class MineDesk {
         static final int OPEN_END = 0;
         static final int SAFE = 1;
         static final int MINED = 2;
+        private static final int KNOWN = 3;
         // Each number waits once at first, and once more for each of its cells that is found.
         private static final int MOST_TURNS = CELLS * (Grid.MOST_NEAR + 1);
 
@@ -1035,7 +1033,7 @@ public final class MineDesk {
         private void begin() {
             waitingCount = 0;
             for (int cell = 0; cell < grid.size; cell++) {
-                found[cell] = OPEN_END;
+                found[cell] = field.isUnknown(cell) ? OPEN_END : KNOWN;
                 common[cell] = 0;
                 openEnds[cell] = field.unknownNear[cell];
                 need[cell] = field.number[cell] - field.hitNear[cell];
@@ -1049,10 +1047,6 @@ public final class MineDesk {
 
         private boolean isTelling(int cell) {
             return field.state[cell] == Field.OPEN && openEnds[cell] > 0;
-        }
-
-        private boolean isOpenEnd(int cell) {
-            return field.isUnknown(cell) && found[cell] == OPEN_END;
         }
 
         private void findBySingles() {
@@ -1108,7 +1102,7 @@ public final class MineDesk {
         private void countCommonEnds(int number) {
             metCount = 0;
             for (int i = number * Grid.MOST_NEAR; i < grid.nearEnd[number]; i++) {
-                if (isOpenEnd(grid.near[i])) {
+                if (found[grid.near[i]] == OPEN_END) {
                     meetNumbersAround(grid.near[i], number);
                 }
             }
@@ -1132,7 +1126,7 @@ public final class MineDesk {
         private void markEnds(int number, int spared, int verdict) {
             for (int i = number * Grid.MOST_NEAR; i < grid.nearEnd[number]; i++) {
                 int cell = grid.near[i];
-                if (isOpenEnd(cell) && (spared == NONE || !grid.areNear(spared, cell))) {
+                if (found[cell] == OPEN_END && (spared == NONE || !grid.areNear(spared, cell))) {
                     mark(cell, verdict);
                 }
             }
@@ -1191,10 +1185,26 @@ public final class MineDesk {
                 cell = firstToTell();
                 grade = cell == NONE ? 0 : g;
             }
-            if (cell != NONE) {
-                mined = reasoner.found[cell] == Reasoner.MINED;
-                explain();
+            mined = cell != NONE && reasoner.found[cell] == Reasoner.MINED;
+        }
+
+        /** Finds the reason of the hint: what it is at first, and then what can be left out. */
+        void explain() {
+            border.chooseAll();
+            border.split();
+            boolean shortEnough = !border.isTooLong();
+            withTotal = shortEnough && !oracle.isSure(cell, mined, false);
+            if (!withTotal) {
+                border.keepPart(border.partOf[cell]);
             }
+            for (int c = field.grid.size - 1; c >= 0 && shortEnough; c--) {
+                if (border.chosen[c]) {
+                    border.chosen[c] = false;
+                    border.split();
+                    border.chosen[c] = !oracle.isSure(cell, mined, withTotal);
+                }
+            }
+            keepChosen();
         }
 
         /** Chooses on the border the numbers of the reason that still tell something. */
@@ -1208,37 +1218,11 @@ public final class MineDesk {
         private int firstToTell() {
             for (int c = 0; c < field.grid.size; c++) {
                 int found = reasoner.found[c];
-                if (field.isUnknown(c) && (found == Reasoner.SAFE
-                        || found == Reasoner.MINED && field.state[c] == Field.CLOSED)) {
+                if (found == Reasoner.SAFE || found == Reasoner.MINED && field.state[c] != Field.FLAGGED) {
                     return c;
                 }
             }
             return NONE;
-        }
-
-        private void explain() {
-            border.chooseAll();
-            border.split();
-            if (border.isTooLong()) {
-                border.keepPart(border.partOf[cell]);
-            } else {
-                withTotal = !oracle.isSure(cell, mined, false);
-                if (!withTotal) {
-                    border.keepPart(border.partOf[cell]);
-                }
-                leaveOut();
-            }
-            keepChosen();
-        }
-
-        private void leaveOut() {
-            for (int c = field.grid.size - 1; c >= 0; c--) {
-                if (border.chosen[c]) {
-                    border.chosen[c] = false;
-                    border.split();
-                    border.chosen[c] = !oracle.isSure(cell, mined, withTotal);
-                }
-            }
         }
 
         private void keepChosen() {
@@ -1258,8 +1242,8 @@ public final class MineDesk {
         private static final int FACTOR = 1103515245;
         private static final int ADDEND = 12345;
         private static final int DROPPED = 65536;
-        // Each round of up to three grades opens a cell, but for the last one.
-        private static final int MOST_TURNS = Reasoner.HIGHEST * (CELLS + 1);
+        // In one play each three grades open a cell at least, but for the last ones, which find none.
+        private static final int MOST_TURNS = (MOST_SHIFTS + 1) * Reasoner.HIGHEST * (CELLS + 1);
 
         private final Field field;
         private final Grid grid;
@@ -1291,17 +1275,25 @@ public final class MineDesk {
             }
         }
 
-        /** Whether the board, perhaps with shifted mines, opens without a guess. */
-        boolean settle(int grade) {
-            for (int shifts = 0; shifts < MOST_SHIFTS; shifts++) {
-                if (play(grade)) {
-                    return true;
+        /** Whether the board, perhaps with shifted mines, opens without a guess; the last play is left as it is. */
+        boolean settle(int highestGrade) {
+            playAnew();
+            int shifts = 0;
+            int grade = 1;
+            for (int turn = 0; turn < MOST_TURNS && !field.isSolved(); turn++) {
+                if (grade <= highestGrade) {
+                    reasoner.raise(grade);
+                    grade = uncoverSafe() ? 1 : grade + 1;
+                    continue;
                 }
-                if (!shiftMine()) {
+                if (shifts >= MOST_SHIFTS || !shiftMine()) {
                     return false;
                 }
+                shifts++;
+                playAnew();
+                grade = 1;
             }
-            return play(grade);
+            return field.isSolved();
         }
 
         private int firstCell() {
@@ -1326,15 +1318,9 @@ public final class MineDesk {
             }
         }
 
-        private boolean play(int highestGrade) {
+        private void playAnew() {
             field.closeAll();
             field.uncover(firstCell());
-            int grade = 1;
-            for (int turn = 0; turn < MOST_TURNS && grade <= highestGrade && !field.isSolved(); turn++) {
-                reasoner.raise(grade);
-                grade = uncoverSafe() ? 1 : grade + 1;
-            }
-            return field.isSolved();
         }
 
         private boolean uncoverSafe() {
