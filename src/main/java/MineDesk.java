@@ -823,16 +823,16 @@ public final class MineDesk {
             if (least > most) {
                 return;
             }
-            settle(group, size, least);
+            assign(group, size, least);
             for (int k = least; k <= most; k++) {
                 pick[group] = k;
                 place(group + 1, mines + k, waysSoFar * CHOICES[size * CHOICES_ROW + k]);
-                settle(group, 0, 1);
+                assign(group, 0, 1);
             }
-            settle(group, -size, -most - 1);
+            assign(group, -size, -most - 1);
         }
 
-        private void settle(int group, int cells, int mines) {
+        private void assign(int group, int cells, int mines) {
             for (int i = group * Grid.MOST_NEAR; i < linkEnd[group]; i++) {
                 border.unknowns[links[i]] -= cells;
                 border.rest[links[i]] -= mines;

@@ -24,10 +24,12 @@ public final class PromisesTest {
         takingBack();
         hintOfGrade1();
         hintOfGrade2();
+        hintOfGrade3();
         hintByTotal();
         hintKeepsAndForgets();
         borderLength();
         followsAsItIsNow();
+        followsFromOpenNumbersAlone();
         countingPlacements();
         longShares();
         counts();
@@ -340,7 +342,7 @@ public final class PromisesTest {
         due(7, "four hits", 4, wrong.chord(1, 1));
         due(17, "lives below 0", -1, wrong.count(5));
         due(9, "four hits", "***/*4!/!!!", seen(wrong));
-        dueThrow(5, "over", UNSUPPORTED, () -> wrong.open(2, 2));
+        dueThrow(6, "over", UNSUPPORTED, () -> wrong.flag(2, 2));
         due(8, "taken back", 5, wrong.undo());
         due(17, "lives again", 3, wrong.count(5));
     }
@@ -425,6 +427,17 @@ public final class PromisesTest {
         due(10, "then safe", 1 + 2 * 1, mined.hint());
     }
 
+    /** The 1 and the 2 leave one mine for the two cells of column 2; so the middle 1 leaves none to columns 1 and 3. */
+    private static void hintOfGrade3() {
+        MineDesk desk = board(0, "x-x-x", "-----", "-----");
+        for (int c = 0; c < 5; c++) desk.open(1, c);
+        due(9, "row 1 is open", "-----/12121/-----", seen(desk));
+        due(10, "safe", 1 + 2 * 1, desk.hint());
+        due(11, "numbers alone", "grade 3: 5 6 7", reason(desk));
+        due(13, "below as well", true, desk.follows(2, 3, false));
+        due(13, "one of two", false, desk.follows(0, 2, true));
+    }
+
     private static void hintByTotal() {
         MineDesk blank = board(0, "---", "---", "---");
         due(10, "no mines at all", 1, blank.hint());
@@ -469,6 +482,9 @@ public final class PromisesTest {
         due(11, "forgotten by the next board", "grade 0:", reason(desk));
         desk.open(2, 0);
         due(10, "solved without mines", 0, desk.hint());
+        desk.blank(3, 3, 0);
+        desk.hint();
+        due(11, "a reason to be forgotten", "grade 3: and the total", reason(desk));
         desk.make(5, 5, 1, 0, 1, 1);
         due(11, "a made board has none", "grade 0:", reason(desk));
     }
@@ -526,6 +542,16 @@ public final class PromisesTest {
         due(9, "the numbers of the new mines", "-----/23---/-----", seen(desk));
         due(13, "not now: there may be fewer in row 0", false, desk.follows(0, 2, false));
         due(13, "nor is it mined for sure", false, desk.follows(0, 2, true));
+    }
+
+    private static void followsFromOpenNumbersAlone() {
+        MineDesk desk = board(0, "xxx", "x-x", "xxx");
+        desk.open(1, 1);
+        due(10, "eight of eight", 2, desk.hint());
+        due(11, "eight of eight", "grade 1: 4", reason(desk));
+        due(13, "eight of eight", true, desk.follows(2, 2, true));
+        desk.undo();
+        due(13, "the number is not shown now", false, desk.follows(2, 2, true));
     }
 
     private static void countingPlacements() {
