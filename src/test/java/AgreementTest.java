@@ -179,6 +179,23 @@ public final class AgreementTest {
             takeHint();
         }
 
+        /** Opens safe cells as long as no part of the border gets too long, so that the shares get as long as they can. */
+        void crowd() {
+            w = 12;
+            h = 12;
+            pair.blank(w, h, random.nextInt(3) == 0 ? 3 : 1);
+            for (int i = 55 + random.nextInt(25); i > 0; i--) pair.edit(random.nextInt(h), random.nextInt(w), true);
+            for (int tries = 0; tries < 60; tries++) {
+                int r = random.nextInt(h), c = random.nextInt(w);
+                if (!pair.plain.isSafe(r, c) || pair.plain.shown(r, c) != 10) continue;
+                pair.open(r, c);
+                if (pair.desk.ways() == MineDesk.NONE) pair.undo();
+            }
+            pair.ways();
+            for (int i = 0; i < 6; i++) shareOf(random.nextInt(h), random.nextInt(w));
+            takeHint();
+        }
+
         /** Plays a made board by the hints, and lastly as the reasoner of the maker would. */
         void followHints() {
             w = 4 + random.nextInt(9);
@@ -278,6 +295,7 @@ public final class AgreementTest {
             new Player(seed, 12).followHints();
             new Player(seed, 12).chordWrongly();
             if (seed % 2 == 0) new Player(seed, 12).openPairs();
+            else new Player(seed, 12).crowd();
         }
         for (String kind : TO_MEET) {
             if (args.length > 0) System.out.println(kind + ": " + met.getOrDefault(kind, 0));

@@ -34,7 +34,8 @@ public final class LanguageTest {
     }
 
     private static void due(String what, Object want, Object got) {
-        checks.due(0, what, want, got);
+        checks.about("LANGUAGE.md");
+        checks.due(what, want, got);
     }
 
     private static String told(Method method) {

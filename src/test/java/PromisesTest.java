@@ -38,61 +38,13 @@ public final class PromisesTest {
     }
 
     private static void due(int promise, String what, Object want, Object got) {
-        checks.due(promise, what, want, got);
+        checks.about("promise " + promise);
+        checks.due(what, want, got);
     }
 
     private static void dueThrow(int promise, String what, Class<? extends RuntimeException> want, Checks.Call call) {
-        checks.dueThrow(promise, what, want, call);
-    }
-
-    /** A blank board with mines where the rows of the picture have an x. */
-    private static MineDesk board(int shape, String... rows) {
-        MineDesk desk = new MineDesk();
-        desk.blank(rows[0].length(), rows.length, shape);
-        for (int r = 0; r < rows.length; r++) {
-            for (int c = 0; c < rows[r].length(); c++) {
-                if (rows[r].charAt(c) == 'x') desk.edit(r, c, true);
-            }
-        }
-        return desk;
-    }
-
-    /** What a player sees, row by row: - closed, ! flagged, * hit. */
-    private static String seen(MineDesk desk) {
-        StringBuilder seen = new StringBuilder();
-        for (int r = 0; r < desk.count(0); r++) {
-            if (r > 0) seen.append('/');
-            for (int c = 0; c < desk.count(1); c++) seen.append("012345678?-!*".charAt(desk.shown(r, c)));
-        }
-        return seen.toString();
-    }
-
-    private static String counts(MineDesk desk) {
-        StringBuilder all = new StringBuilder();
-        for (int what = 0; what <= 8; what++) all.append(what == 0 ? "" : " ").append(desk.count(what));
-        return all.toString();
-    }
-
-    private static String reason(MineDesk desk) {
-        StringBuilder all = new StringBuilder("grade " + desk.reason(0) + ":");
-        for (int k = 0; k < desk.reason(1); k++) all.append(' ').append(desk.reasonCell(k));
-        return all + (desk.reason(2) == 1 ? " and the total" : "");
-    }
-
-    private static String share(MineDesk desk, int r, int c) {
-        BigInteger[] parts = {BigInteger.ZERO, BigInteger.ZERO};
-        for (int part = 0; part < 2; part++) {
-            for (int i = 7; i >= 0; i--) {
-                parts[part] = parts[part].shiftLeft(31).add(BigInteger.valueOf(desk.share(r, c, part, i)));
-            }
-        }
-        return parts[0] + "/" + parts[1];
-    }
-
-    private static BigInteger choose(int n, int k) {
-        BigInteger ways = BigInteger.ONE;
-        for (int i = 0; i < k; i++) ways = ways.multiply(BigInteger.valueOf(n - i)).divide(BigInteger.valueOf(i + 1));
-        return ways;
+        checks.about("promise " + promise);
+        checks.dueThrow(what, want, call);
     }
 
     private static void newObject() {
@@ -119,18 +71,18 @@ public final class PromisesTest {
         // x becomes 12345, which is cell 0 of the free ones.
         for (int seed : new int[] {0, Integer.MIN_VALUE}) {
             due(2, "make, seed " + seed, 1, desk.make(5, 5, 1, 0, seed, 1));
-            due(2, "made and closed", "5 5 1 0 0 3 0 0 1", counts(desk));
+            due(2, "made and closed", "5 5 1 0 0 3 0 0 1", Desks.counts(desk));
             due(2, "first cell", 0, desk.open(2, 2));
-            due(2, "mine at the corner", "-1000/11000/00000/00000/00000", seen(desk));
+            due(2, "mine at the corner", "-1000/11000/00000/00000/00000", Desks.seen(desk));
         }
         // x becomes 1103527590: 16838 modulo 16 is 6, which is row 1, column 4.
         due(2, "make, seed 1", 1, desk.make(5, 5, 1, 0, 1, 1));
         desk.open(2, 2);
-        due(2, "mine at the side", "0001-/0001-/00011/00000/00000", seen(desk));
+        due(2, "mine at the side", "0001-/0001-/00011/00000/00000", Desks.seen(desk));
         dueThrow(2, "a made board is not edited", UNSUPPORTED, () -> desk.edit(0, 0, true));
         due(2, "all free cells mined", 1, desk.make(4, 3, 3, 0, 9, 2));
         desk.open(1, 2);
-        due(2, "all free cells mined, opened", "-200/-300/-200", seen(desk));
+        due(2, "all free cells mined, opened", "-200/-300/-200", Desks.seen(desk));
         due(2, "all free cells of a comb", 1, desk.make(3, 3, 2, 2, 5, 1));
     }
 
@@ -166,10 +118,10 @@ public final class PromisesTest {
         desk.edit(0, 0, true);
         desk.open(0, 1);
         desk.hint();
-        String before = seen(desk) + counts(desk) + reason(desk);
+        String before = Desks.seen(desk) + Desks.counts(desk) + Desks.reason(desk);
         dueThrow(2, "refused", ARGUMENT, () -> desk.make(5, 5, 1, 0, 1, 4));
         dueThrow(3, "refused", ARGUMENT, () -> { desk.blank(5, 5, 3); return 0; });
-        due(2, "the board before stays", before, seen(desk) + counts(desk) + reason(desk));
+        due(2, "the board before stays", before, Desks.seen(desk) + Desks.counts(desk) + Desks.reason(desk));
     }
 
     private static void blankBoards() {
@@ -184,10 +136,10 @@ public final class PromisesTest {
         dueThrow(3, "comb ring of 11 rows", ARGUMENT, () -> { desk.blank(3, 11, 3); return 0; });
         dueThrow(3, "still no board", STATE, () -> desk.shown(0, 0));
         desk.blank(3, 12, 3);
-        due(3, "blank", "12 3 0 0 0 3 0 0 1", counts(desk));
+        due(3, "blank", "12 3 0 0 0 3 0 0 1", Desks.counts(desk));
         due(3, "opens at once", 0, desk.open(0, 0));
         desk.blank(12, 3, 0);
-        due(3, "a new board", "3 12 0 0 0 3 0 0 1", counts(desk));
+        due(3, "a new board", "3 12 0 0 0 3 0 0 1", Desks.counts(desk));
     }
 
     private static void shapes() {
@@ -210,7 +162,7 @@ public final class PromisesTest {
     }
 
     private static int numberAt(int shape, int r, int c, String... rows) {
-        return board(shape, rows).open(r, c);
+        return Desks.board(shape, rows).open(r, c);
     }
 
     private static void editing() {
@@ -236,7 +188,7 @@ public final class PromisesTest {
         desk.undo();
         due(4, "after taking both back", 3, desk.edit(0, 1, true));
         for (int cell = 0; cell < 9; cell++) desk.edit(cell / 3, cell % 3, true);
-        due(4, "all mines", "3 3 9 0 0 3 0 1 0", counts(desk));
+        due(4, "all mines", "3 3 9 0 0 3 0 1 0", Desks.counts(desk));
         desk.make(4, 3, 3, 0, 9, 2);
         dueThrow(4, "a made board", UNSUPPORTED, () -> desk.edit(0, 0, true));
         desk.blank(3, 3, 0);
@@ -244,7 +196,7 @@ public final class PromisesTest {
     }
 
     private static void noSuchCell() {
-        MineDesk desk = board(0, "x---", "----", "---x");
+        MineDesk desk = Desks.board(0, "x---", "----", "---x");
         int[][] wrong = {{-1, 0}, {0, -1}, {3, 0}, {0, 4}, {Integer.MIN_VALUE, 0}, {0, Integer.MAX_VALUE}, {-1, 5}};
         for (int[] at : wrong) {
             String cell = "row " + at[0] + ", column " + at[1];
@@ -257,39 +209,39 @@ public final class PromisesTest {
             dueThrow(15, "share, " + cell, BOUNDS, () -> desk.share(at[0], at[1], 0, 0));
             dueThrow(16, "permille, " + cell, BOUNDS, () -> desk.permille(at[0], at[1]));
         }
-        due(4, "nothing has changed", "3 4 2 0 0 3 0 0 2", counts(desk));
+        due(4, "nothing has changed", "3 4 2 0 0 3 0 0 2", Desks.counts(desk));
         due(9, "last cell", 10, desk.shown(2, 3));
     }
 
     private static void opening() {
-        MineDesk desk = board(0, "x----", "-----", "-----", "----x");
+        MineDesk desk = Desks.board(0, "x----", "-----", "-----", "----x");
         due(5, "a number", 1, desk.open(1, 1));
-        due(9, "one open", "-----/-1---/-----/-----", seen(desk));
+        due(9, "one open", "-----/-1---/-----/-----", Desks.seen(desk));
         desk.flag(0, 2);
         desk.flag(0, 0);
         desk.flag(3, 4);
         due(5, "a zero opens on", 0, desk.open(0, 4));
-        due(9, "flags on safe cells are gone", "!1000/11000/00011/0001!", seen(desk));
+        due(9, "flags on safe cells are gone", "!1000/11000/00011/0001!", Desks.seen(desk));
         due(17, "flags left", 2, desk.count(4));
         dueThrow(5, "open already", UNSUPPORTED, () -> desk.open(0, 4));
         dueThrow(5, "flagged", UNSUPPORTED, () -> desk.open(0, 0));
         desk.flag(0, 0);
         due(5, "a mine, though it is solved", 9, desk.open(0, 0));
-        due(9, "hit", "*1000/11000/00011/0001!", seen(desk));
+        due(9, "hit", "*1000/11000/00011/0001!", Desks.seen(desk));
         dueThrow(5, "hit already", UNSUPPORTED, () -> desk.open(0, 0));
         due(17, "still solved", 1, desk.count(7));
         due(17, "a life less", 2, desk.count(5));
     }
 
     private static void livesRunOut() {
-        MineDesk desk = board(0, "xxx", "x--", "---");
+        MineDesk desk = Desks.board(0, "xxx", "x--", "---");
         desk.open(1, 1);
         for (int c = 0; c < 3; c++) due(5, "hit", 9, desk.open(0, c));
         due(17, "no lives", 0, desk.count(5));
         dueThrow(5, "over", UNSUPPORTED, () -> desk.open(2, 2));
         dueThrow(6, "over", UNSUPPORTED, () -> desk.flag(2, 2));
         dueThrow(7, "over", UNSUPPORTED, () -> desk.chord(1, 1));
-        due(9, "over", "***/-4-/---", seen(desk));
+        due(9, "over", "***/-4-/---", Desks.seen(desk));
         due(10, "a hint all the same", 0, desk.hint());
         due(14, "ways all the same", 5, desk.ways());
         due(16, "share all the same", 200, desk.permille(2, 2));
@@ -298,7 +250,7 @@ public final class PromisesTest {
     }
 
     private static void flagging() {
-        MineDesk desk = board(0, "x--", "---", "---");
+        MineDesk desk = Desks.board(0, "x--", "---", "---");
         due(6, "flagged", true, desk.flag(0, 0));
         due(9, "flagged", 11, desk.shown(0, 0));
         due(17, "flagged ones", 1, desk.count(4));
@@ -313,7 +265,7 @@ public final class PromisesTest {
     }
 
     private static void chording() {
-        MineDesk desk = board(0, "x----", "-----", "-----", "----x");
+        MineDesk desk = Desks.board(0, "x----", "-----", "-----", "----x");
         desk.open(1, 1);
         dueThrow(7, "closed cell", UNSUPPORTED, () -> desk.chord(0, 0));
         dueThrow(7, "no flag", UNSUPPORTED, () -> desk.chord(1, 1));
@@ -323,43 +275,43 @@ public final class PromisesTest {
         dueThrow(7, "flagged cell", UNSUPPORTED, () -> desk.chord(0, 0));
         desk.flag(0, 1);
         due(7, "opens all that opens", 17, desk.chord(1, 1));
-        due(9, "after the chord", "!1000/11000/00011/0001-", seen(desk));
+        due(9, "after the chord", "!1000/11000/00011/0001-", Desks.seen(desk));
         dueThrow(7, "none is closed", UNSUPPORTED, () -> desk.chord(1, 1));
         dueThrow(7, "number 0", UNSUPPORTED, () -> desk.chord(0, 4));
         due(8, "one move", 4, desk.undo());
-        due(9, "as before", "!----/-1---/-----/-----", seen(desk));
+        due(9, "as before", "!----/-1---/-----/-----", Desks.seen(desk));
 
-        MineDesk hit = board(0, "x--", "---", "---");
+        MineDesk hit = Desks.board(0, "x--", "---", "---");
         hit.open(1, 1);
         hit.open(0, 0);
         dueThrow(7, "hit cell", UNSUPPORTED, () -> hit.chord(0, 0));
         due(7, "a hit counts as a flag", 7, hit.chord(1, 1));
         due(17, "solved", 1, hit.count(7));
 
-        MineDesk wrong = board(0, "xxx", "x--", "---");
+        MineDesk wrong = Desks.board(0, "xxx", "x--", "---");
         wrong.open(1, 1);
         for (int cell : new int[] {5, 6, 7, 8}) wrong.flag(cell / 3, cell % 3);
         due(7, "four hits", 4, wrong.chord(1, 1));
         due(17, "lives below 0", -1, wrong.count(5));
-        due(9, "four hits", "***/*4!/!!!", seen(wrong));
+        due(9, "four hits", "***/*4!/!!!", Desks.seen(wrong));
         dueThrow(6, "over", UNSUPPORTED, () -> wrong.flag(2, 2));
         due(8, "taken back", 5, wrong.undo());
         due(17, "lives again", 3, wrong.count(5));
     }
 
     private static void takingBack() {
-        MineDesk desk = board(0, "x----", "-----", "-----", "----x");
+        MineDesk desk = Desks.board(0, "x----", "-----", "-----", "----x");
         dueThrow(8, "no move", UNSUPPORTED, desk::undo);
         desk.flag(0, 3);
         desk.open(0, 0);
         desk.open(0, 4);
-        due(9, "before", "*1000/11000/00011/0001-", seen(desk));
+        due(9, "before", "*1000/11000/00011/0001-", Desks.seen(desk));
         due(8, "opening taken back", 2, desk.undo());
-        due(9, "the flag is there again", "*--!-/-----/-----/-----", seen(desk));
+        due(9, "the flag is there again", "*--!-/-----/-----/-----", Desks.seen(desk));
         due(8, "hit taken back", 1, desk.undo());
         due(17, "lives", 3, desk.count(5));
         due(8, "flag taken back", 0, desk.undo());
-        due(8, "as at first", "4 5 2 0 0 3 0 0 1", counts(desk));
+        due(8, "as at first", "4 5 2 0 0 3 0 0 1", Desks.counts(desk));
         dueThrow(8, "no move left", UNSUPPORTED, desk::undo);
         dueThrow(8, "refused calls are no moves", UNSUPPORTED, () -> desk.chord(0, 0));
         due(8, "refused calls are no moves", 0, desk.count(6));
@@ -369,36 +321,36 @@ public final class PromisesTest {
     }
 
     private static void hintOfGrade1() {
-        MineDesk desk = board(0, "x---", "----", "----", "---x");
+        MineDesk desk = Desks.board(0, "x---", "----", "----", "---x");
         desk.open(0, 3);
         due(10, "mined", 2, desk.hint());
-        due(11, "the last numbers are left out", "grade 1: 1", reason(desk));
+        due(11, "the last numbers are left out", "grade 1: 1", Desks.reason(desk));
         desk.flag(0, 0);
         due(10, "flagged ones are passed", 2 + 2 * 15, desk.hint());
-        due(11, "the other corner", "grade 1: 10", reason(desk));
+        due(11, "the other corner", "grade 1: 10", Desks.reason(desk));
         desk.flag(3, 3);
         due(10, "all flagged", 0, desk.hint());
-        due(11, "no reason", "grade 0:", reason(desk));
+        due(11, "no reason", "grade 0:", Desks.reason(desk));
         dueThrow(12, "no number", BOUNDS, () -> desk.reasonCell(0));
 
-        MineDesk safe = board(0, "x---", "----", "----");
+        MineDesk safe = Desks.board(0, "x---", "----", "----");
         safe.open(0, 1);
         safe.open(1, 0);
         safe.open(0, 0);
         safe.flag(0, 2);
         due(10, "a safe one though it is flagged", 1 + 2 * 2, safe.hint());
-        due(11, "by its number", "grade 1: 1", reason(safe));
+        due(11, "by its number", "grade 1: 1", Desks.reason(safe));
         due(13, "safe", true, safe.follows(0, 2, false));
         due(13, "another one by it", true, safe.follows(1, 2, false));
         due(13, "not next to it", false, safe.follows(2, 0, false));
     }
 
     private static void hintOfGrade2() {
-        MineDesk desk = board(0, "-x--x", "-----", "-----");
+        MineDesk desk = Desks.board(0, "-x--x", "-----", "-----");
         desk.open(2, 0);
-        due(9, "a row of ones", "-----/11111/00000", seen(desk));
+        due(9, "a row of ones", "-----/11111/00000", Desks.seen(desk));
         due(10, "safe", 1 + 2 * 2, desk.hint());
-        due(11, "two numbers", "grade 2: 5 6", reason(desk));
+        due(11, "two numbers", "grade 2: 5 6", Desks.reason(desk));
         due(11, "grade", 2, desk.reason(0));
         due(11, "how many", 2, desk.reason(1));
         due(11, "no total", 0, desk.reason(2));
@@ -414,79 +366,79 @@ public final class PromisesTest {
         due(13, "not of its numbers", false, desk.follows(0, 3, true));
         dueThrow(13, "an open cell", UNSUPPORTED, () -> desk.follows(1, 1, true));
         due(14, "two ways", 2, desk.ways());
-        due(15, "half", "1/2", share(desk, 0, 0));
-        due(15, "none", "0/1", share(desk, 0, 2));
+        due(15, "half", "1/2", Desks.share(desk, 0, 0));
+        due(15, "none", "0/1", Desks.share(desk, 0, 2));
 
         // The first 2 has one open end more than the first 1: it is mined; so the middle 1 has its mine.
-        MineDesk mined = board(0, "x-x-x", "-----", "-----");
+        MineDesk mined = Desks.board(0, "x-x-x", "-----", "-----");
         mined.open(2, 0);
-        due(9, "ones and twos", "-----/12121/00000", seen(mined));
+        due(9, "ones and twos", "-----/12121/00000", Desks.seen(mined));
         due(10, "mined", 2, mined.hint());
-        due(11, "the first number is left out lastly", "grade 2: 6 7", reason(mined));
+        due(11, "the first number is left out lastly", "grade 2: 6 7", Desks.reason(mined));
         mined.flag(0, 0);
         due(10, "then safe", 1 + 2 * 1, mined.hint());
     }
 
     /** The 1 and the 2 leave one mine for the two cells of column 2; so the middle 1 leaves none to columns 1 and 3. */
     private static void hintOfGrade3() {
-        MineDesk desk = board(0, "x-x-x", "-----", "-----");
+        MineDesk desk = Desks.board(0, "x-x-x", "-----", "-----");
         for (int c = 0; c < 5; c++) desk.open(1, c);
-        due(9, "row 1 is open", "-----/12121/-----", seen(desk));
+        due(9, "row 1 is open", "-----/12121/-----", Desks.seen(desk));
         due(10, "safe", 1 + 2 * 1, desk.hint());
-        due(11, "numbers alone", "grade 3: 5 6 7", reason(desk));
+        due(11, "numbers alone", "grade 3: 5 6 7", Desks.reason(desk));
         due(13, "below as well", true, desk.follows(2, 3, false));
         due(13, "one of two", false, desk.follows(0, 2, true));
     }
 
     private static void hintByTotal() {
-        MineDesk blank = board(0, "---", "---", "---");
+        MineDesk blank = Desks.board(0, "---", "---", "---");
         due(10, "no mines at all", 1, blank.hint());
-        due(11, "by the total alone", "grade 3: and the total", reason(blank));
+        due(11, "by the total alone", "grade 3: and the total", Desks.reason(blank));
         due(13, "any cell", true, blank.follows(2, 2, false));
         due(13, "no cell", false, blank.follows(2, 2, true));
 
-        MineDesk full = board(0, "xxx", "xxx", "xxx");
+        MineDesk full = Desks.board(0, "xxx", "xxx", "xxx");
         due(10, "all mines", 2, full.hint());
-        due(11, "by the total alone", "grade 3: and the total", reason(full));
+        due(11, "by the total alone", "grade 3: and the total", Desks.reason(full));
 
-        MineDesk one = board(0, "-x-----", "-------", "-------");
+        MineDesk one = Desks.board(0, "-x-----", "-------", "-------");
         one.open(0, 0);
         due(10, "off the border", 1 + 2 * 2, one.hint());
-        due(11, "the number and the total", "grade 3: 0 and the total", reason(one));
+        due(11, "the number and the total", "grade 3: 0 and the total", Desks.reason(one));
         due(11, "with the total", 1, one.reason(2));
         due(13, "another cell off the border", true, one.follows(2, 6, false));
         due(13, "not on the border", false, one.follows(0, 1, true));
         due(14, "three ways", 3, one.ways());
-        due(15, "a third", "1/3", share(one, 0, 1));
+        due(15, "a third", "1/3", Desks.share(one, 0, 1));
         due(16, "a third", 333, one.permille(0, 1));
         due(16, "none", 0, one.permille(2, 6));
     }
 
     private static void hintKeepsAndForgets() {
-        MineDesk desk = board(0, "-x--x", "-----", "-----");
-        due(11, "no hint yet", "grade 0:", reason(desk));
+        MineDesk desk = Desks.board(0, "-x--x", "-----", "-----");
+        due(11, "no hint yet", "grade 0:", Desks.reason(desk));
         due(13, "nothing follows yet", false, desk.follows(0, 0, false));
         desk.open(2, 0);
         desk.hint();
         desk.open(0, 2);
-        due(11, "kept over moves", "grade 2: 5 6", reason(desk));
+        due(11, "kept over moves", "grade 2: 5 6", Desks.reason(desk));
         desk.undo();
         desk.undo();
-        due(11, "kept though all is closed", "grade 2: 5 6", reason(desk));
+        due(11, "kept though all is closed", "grade 2: 5 6", Desks.reason(desk));
         due(13, "nothing follows from closed cells", false, desk.follows(0, 2, false));
         due(10, "no hint now", 0, desk.hint());
-        due(11, "forgotten by the next one", "grade 0:", reason(desk));
+        due(11, "forgotten by the next one", "grade 0:", Desks.reason(desk));
         desk.open(2, 0);
         desk.hint();
         desk.blank(5, 3, 0);
-        due(11, "forgotten by the next board", "grade 0:", reason(desk));
+        due(11, "forgotten by the next board", "grade 0:", Desks.reason(desk));
         desk.open(2, 0);
         due(10, "solved without mines", 0, desk.hint());
         desk.blank(3, 3, 0);
         desk.hint();
-        due(11, "a reason to be forgotten", "grade 3: and the total", reason(desk));
+        due(11, "a reason to be forgotten", "grade 3: and the total", Desks.reason(desk));
         desk.make(5, 5, 1, 0, 1, 1);
-        due(11, "a made board has none", "grade 0:", reason(desk));
+        due(11, "a made board has none", "grade 0:", Desks.reason(desk));
     }
 
     /** Mines all along the upper and the left side: a border of one part, of w + h - 1 cells. */
@@ -502,28 +454,28 @@ public final class PromisesTest {
     private static void borderLength() {
         MineDesk longest = corner(8, 9);
         due(14, "16 cells", 1, longest.ways());
-        due(15, "16 cells", "1/1", share(longest, 0, 0));
+        due(15, "16 cells", "1/1", Desks.share(longest, 0, 0));
         due(16, "16 cells", 1000, longest.permille(0, 0));
         due(10, "16 cells", 2, longest.hint());
-        due(11, "one number is enough", "grade 1: 9", reason(longest));
+        due(11, "one number is enough", "grade 1: 9", Desks.reason(longest));
         MineDesk desk = corner(9, 9);
         due(14, "17 cells", MineDesk.NONE, desk.ways());
         dueThrow(15, "17 cells", UNSUPPORTED, () -> desk.share(0, 0, 0, 0));
         dueThrow(15, "17 cells, a wrong part", BOUNDS, () -> desk.share(0, 0, 2, 0));
         dueThrow(16, "17 cells", UNSUPPORTED, () -> desk.permille(0, 0));
         due(10, "17 cells, by grade 1", 2, desk.hint());
-        due(11, "nothing is left out", "grade 1: 10 11 12 13 14 15 16 17 19 28 37 46 55 64 73", reason(desk));
+        due(11, "nothing is left out", "grade 1: 10 11 12 13 14 15 16 17 19 28 37 46 55 64 73", Desks.reason(desk));
         dueThrow(13, "17 cells", UNSUPPORTED, () -> desk.follows(0, 0, true));
         desk.open(0, 4);
         due(13, "16 cells and a hit one", true, desk.follows(0, 0, true));
         due(13, "16 cells and a hit one", false, desk.follows(0, 0, false));
         due(14, "16 cells and a hit one", 1, desk.ways());
         due(10, "16 cells and a hit one", 2, desk.hint());
-        due(11, "now things are left out", "grade 1: 10", reason(desk));
+        due(11, "now things are left out", "grade 1: 10", Desks.reason(desk));
     }
 
     private static void followsAsItIsNow() {
-        MineDesk desk = board(0, "-x--x", "-----", "-----");
+        MineDesk desk = Desks.board(0, "-x--x", "-----", "-----");
         desk.open(2, 0);
         desk.hint();
         desk.flag(0, 0);
@@ -539,28 +491,28 @@ public final class PromisesTest {
         desk.edit(0, 2, true);
         desk.open(1, 0);
         desk.open(1, 1);
-        due(9, "the numbers of the new mines", "-----/23---/-----", seen(desk));
+        due(9, "the numbers of the new mines", "-----/23---/-----", Desks.seen(desk));
         due(13, "not now: there may be fewer in row 0", false, desk.follows(0, 2, false));
         due(13, "nor is it mined for sure", false, desk.follows(0, 2, true));
     }
 
     private static void followsFromOpenNumbersAlone() {
-        MineDesk desk = board(0, "xxx", "x-x", "xxx");
+        MineDesk desk = Desks.board(0, "xxx", "x-x", "xxx");
         desk.open(1, 1);
         due(10, "eight of eight", 2, desk.hint());
-        due(11, "eight of eight", "grade 1: 4", reason(desk));
+        due(11, "eight of eight", "grade 1: 4", Desks.reason(desk));
         due(13, "eight of eight", true, desk.follows(2, 2, true));
         desk.undo();
         due(13, "the number is not shown now", false, desk.follows(2, 2, true));
     }
 
     private static void countingPlacements() {
-        MineDesk desk = board(1, "x---", "--x-", "----", "-x--");
+        MineDesk desk = Desks.board(1, "x---", "--x-", "----", "-x--");
         desk.open(2, 3);
         desk.open(0, 1);
         desk.open(2, 1);
         due(14, "ring", 16, desk.ways());
-        due(15, "ring", "1/2", share(desk, 0, 0));
+        due(15, "ring", "1/2", Desks.share(desk, 0, 0));
         dueThrow(15, "part 2", BOUNDS, () -> desk.share(0, 0, 2, 0));
         dueThrow(15, "part -1", BOUNDS, () -> desk.share(0, 0, -1, 0));
         dueThrow(15, "i 8", BOUNDS, () -> desk.share(0, 0, 0, 8));
@@ -569,7 +521,7 @@ public final class PromisesTest {
         dueThrow(15, "an open cell, a wrong i", BOUNDS, () -> desk.share(2, 3, 0, 8));
         dueThrow(16, "an open cell", UNSUPPORTED, () -> desk.permille(2, 3));
         desk.flag(0, 0);
-        due(15, "a flagged cell", "1/2", share(desk, 0, 0));
+        due(15, "a flagged cell", "1/2", Desks.share(desk, 0, 0));
         due(14, "flags tell nothing", 16, desk.ways());
         desk.open(1, 2);
         dueThrow(16, "a hit cell", UNSUPPORTED, () -> desk.permille(1, 2));
@@ -577,7 +529,7 @@ public final class PromisesTest {
     }
 
     private static MineDesk solved() {
-        MineDesk desk = board(0, "---", "---", "---");
+        MineDesk desk = Desks.board(0, "---", "---", "---");
         desk.open(0, 0);
         return desk;
     }
@@ -586,46 +538,46 @@ public final class PromisesTest {
         MineDesk desk = new MineDesk();
         desk.blank(12, 12, 0);
         for (int i = 0; i < 72; i++) desk.edit(i / 6, i % 6 * 2 + (i / 6 + 1) % 2, true);
-        BigInteger all = choose(144, 72);
+        BigInteger all = Desks.choose(144, 72);
         due(14, "half of 144", all.mod(BigInteger.valueOf(1000000007)).intValue(), desk.ways());
-        due(15, "half of 144", "1/2", share(desk, 7, 7));
+        due(15, "half of 144", "1/2", Desks.share(desk, 7, 7));
         due(16, "half of 144", 500, desk.permille(11, 11));
         // A corner's 2 of 3 and a 4 of 8, which meet nowhere; then a number that meets the second one's.
         desk.open(0, 0);
         desk.open(4, 4);
         due(9, "corner", 2, desk.shown(0, 0));
         due(9, "inside", 4, desk.shown(4, 4));
-        BigInteger ways = choose(3, 2).multiply(choose(8, 4)).multiply(choose(131, 66));
+        BigInteger ways = Desks.choose(3, 2).multiply(Desks.choose(8, 4)).multiply(Desks.choose(131, 66));
         due(14, "two parts", ways.mod(BigInteger.valueOf(1000000007)).intValue(), desk.ways());
-        due(15, "corner", "2/3", share(desk, 0, 1));
-        due(15, "inside", "1/2", share(desk, 3, 3));
-        due(15, "off the border", "66/131", share(desk, 11, 11));
+        due(15, "corner", "2/3", Desks.share(desk, 0, 1));
+        due(15, "inside", "1/2", Desks.share(desk, 3, 3));
+        due(15, "off the border", "66/131", Desks.share(desk, 11, 11));
         due(16, "off the border", 503, desk.permille(11, 11));
         desk.open(4, 6);
         BigInteger sum = BigInteger.ZERO, shared = BigInteger.ZERO;
         for (int k = 0; k <= 3; k++) {
-            BigInteger term = choose(3, k).multiply(choose(5, 4 - k).pow(2)).multiply(choose(125, 72 - 2 - 8 + k));
+            BigInteger term = Desks.choose(3, k).multiply(Desks.choose(5, 4 - k).pow(2)).multiply(Desks.choose(125, 72 - 2 - 8 + k));
             sum = sum.add(term);
             shared = shared.add(term.multiply(BigInteger.valueOf(k)));
         }
         sum = sum.multiply(BigInteger.valueOf(3));
         BigInteger divisor = sum.gcd(shared);
-        due(15, "where two meet", shared.divide(divisor) + "/" + sum.divide(divisor), share(desk, 4, 5));
+        due(15, "where two meet", shared.divide(divisor) + "/" + sum.divide(divisor), Desks.share(desk, 4, 5));
         due(16, "where two meet", shared.multiply(BigInteger.valueOf(1000)).divide(sum).intValue(), desk.permille(4, 5));
     }
 
     private static void counts() {
-        MineDesk desk = board(2, "-----", "-x---", "-----", "---x-", "-----");
+        MineDesk desk = Desks.board(2, "-----", "-x---", "-----", "---x-", "-----");
         desk.open(4, 0);
-        due(17, "comb", "5 5 2 11 0 3 1 0 4", counts(desk));
+        due(17, "comb", "5 5 2 11 0 3 1 0 4", Desks.counts(desk));
         dueThrow(17, "9", BOUNDS, () -> desk.count(9));
         dueThrow(17, "-1", BOUNDS, () -> desk.count(-1));
-        due(17, "rim of zeros", 1, board(0, "-----", "-----", "--x--", "-----", "-----").count(8));
-        due(17, "each by itself", 8, board(0, "---", "-x-", "---").count(8));
-        due(17, "two fields of zeros", 2, board(0, "---x---", "---x---", "---x---").count(8));
-        due(17, "a ring has one field", 1, board(1, "---x---", "---x---", "---x---").count(8));
-        due(17, "no zeros", 3, board(0, "x-x", "x-x", "x-x").count(8));
-        MineDesk part = board(0, "---x---", "---x---", "---x---");
+        due(17, "rim of zeros", 1, Desks.board(0, "-----", "-----", "--x--", "-----", "-----").count(8));
+        due(17, "each by itself", 8, Desks.board(0, "---", "-x-", "---").count(8));
+        due(17, "two fields of zeros", 2, Desks.board(0, "---x---", "---x---", "---x---").count(8));
+        due(17, "a ring has one field", 1, Desks.board(1, "---x---", "---x---", "---x---").count(8));
+        due(17, "no zeros", 3, Desks.board(0, "x-x", "x-x", "x-x").count(8));
+        MineDesk part = Desks.board(0, "---x---", "---x---", "---x---");
         part.open(0, 2);
         due(17, "an open number changes nothing", 2, part.count(8));
         part.flag(0, 0);
@@ -634,14 +586,14 @@ public final class PromisesTest {
         due(17, "one field less", 1, part.count(8));
         part.open(1, 3);
         due(17, "nor does a hit", 1, part.count(8));
-        due(17, "now", "3 7 3 9 0 2 4 0 1", counts(part));
+        due(17, "now", "3 7 3 9 0 2 4 0 1", Desks.counts(part));
         part.open(1, 6);
-        due(17, "solved", "3 7 3 18 0 2 5 1 0", counts(part));
+        due(17, "solved", "3 7 3 18 0 2 5 1 0", Desks.counts(part));
     }
 
     /** What is answered there is free, but nothing may be thrown that no call throws. */
     private static void beyondTheLimit() {
-        MineDesk desk = board(0, "x--", "---", "---");
+        MineDesk desk = Desks.board(0, "x--", "---", "---");
         int thrown = 0;
         for (int i = 0; i < 2000; i++) {
             try {
