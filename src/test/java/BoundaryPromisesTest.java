@@ -207,6 +207,8 @@ public final class BoundaryPromisesTest {
         dueThrow("a made board with all moves taken back", UNSUPPORTED, () -> made.edit(0, 0, true));
         made.blank(4, 3, 0);
         due("a blank board after it", 1, made.edit(0, 0, true));
+        made.make(4, 3, 3, 0, 1, 1);
+        dueThrow("a made board after a blank one", UNSUPPORTED, () -> made.edit(0, 0, true));
         about(4, "and no move was made since (or all were taken back)");
         MineDesk moved = board(0, "x--", "---", "---");
         moved.open(1, 1);
@@ -727,7 +729,9 @@ public final class BoundaryPromisesTest {
         due("none of 144", 0, most.permille(5, 5));
         most.edit(0, 0, true);
         due("1 of 144", 6, most.permille(5, 5));
-        for (int cell = 1; cell < 143; cell++) most.edit(cell / 12, cell % 12, true);
+        for (int cell = 1; cell < 72; cell++) most.edit(cell / 12, cell % 12, true);
+        due("72 of 144", 500, most.permille(5, 5));
+        for (int cell = 72; cell < 143; cell++) most.edit(cell / 12, cell % 12, true);
         due("143 of 144", 993, most.permille(5, 5));
         MineDesk rare = pairOf(1, true);
         due("1 of 3228", "1/3228", Desks.share(rare, 0, 2));
@@ -804,5 +808,8 @@ public final class BoundaryPromisesTest {
         due("solved", "0 1", desk.count(8) + " " + desk.count(7));
         desk.undo();
         due("taken back", 1, desk.count(8));
+        MineDesk apart = board(0, "---", "-x-", "---");
+        apart.flag(0, 0);
+        due("a flagged one by itself has to be opened all the same", 8, apart.count(8));
     }
 }

@@ -517,6 +517,21 @@ public final class BoundaryTermsTest {
         MineDesk desk = new MineDesk();
         due("no cell to take it", 0, desk.make(4, 3, 1, 0, 5, 1));
         dueThrow("there is no board", IllegalStateException.class, () -> desk.count(0));
+        about("or this was done 100 times");
+        // No board is known that needs more than these; in some 400 million that were tried none came to 90.
+        oftenShifted(12, 12, 42, 2, 903208821, 1, 82);
+    }
+
+    private static void oftenShifted(int w, int h, int mines, int shape, int seed, int grade, int shifts) {
+        MineDesk desk = new MineDesk();
+        PlainDesk plain = new PlainDesk();
+        due("made after " + shifts + " shifts", 1, desk.make(w, h, mines, shape, seed, grade));
+        due("made after " + shifts + " shifts", 1, plain.make(w, h, mines, shape, seed, grade));
+        due("so many shifts", shifts, plain.shifts());
+        for (int cell = 0; cell < w * h; cell++) {
+            if (plain.isSafe(cell / w, cell % w) && desk.shown(cell / w, cell % w) == 10) desk.open(cell / w, cell % w);
+        }
+        due("the mines are where they should be", mines + " 3 1", desk.count(2) + " " + desk.count(5) + " " + desk.count(7));
     }
 
     private static void moves() {

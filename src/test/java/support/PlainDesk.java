@@ -22,6 +22,7 @@ final class PlainDesk {
     private int hintGrade;
     private boolean hintTotal;
     private List<Integer> hintNumbers = new ArrayList<>();
+    private int shifts;
 
     int make(int w, int h, int mines, int shape, int seed, int grade) {
         if (!possible(w, h, shape) || mines <= 0 || grade < 1 || grade > 3) throw new IllegalArgumentException();
@@ -40,6 +41,7 @@ final class PlainDesk {
         }
         boolean made = other.settle(first, grade);
         blank(w, h, shape);
+        shifts = other.shifts;
         mine = other.mine;
         blank = false;
         board = made;
@@ -47,7 +49,7 @@ final class PlainDesk {
     }
 
     private boolean settle(int first, int grade) {
-        for (int shifts = 0; ; shifts++) {
+        for (shifts = 0; ; shifts++) {
             Arrays.fill(state, CLOSED);
             opening(first);
             while (openFoundSafe(grade)) { }
@@ -264,6 +266,11 @@ final class PlainDesk {
         }
         state = kept;
         return n;
+    }
+
+    /** How often a mine was shifted by the latest make(). */
+    int shifts() {
+        return shifts;
     }
 
     /** For a player that knows where the mines are. */
