@@ -5,7 +5,7 @@ public final class BoundaryTermsTest {
     private static final Class<UnsupportedOperationException> UNSUPPORTED = UnsupportedOperationException.class;
     private static final Checks checks = new Checks();
 
-    public static void main(String[] args) {
+    public static void main(String[] args) throws ReflectiveOperationException {
         boards();
         shapes();
         cells();
@@ -507,7 +507,7 @@ public final class BoundaryTermsTest {
         due("the total for grade 3", "----/-211/1100/0000", made(4, 4, 2, 0, 3, 3));
     }
 
-    private static void makingByShifts() {
+    private static void makingByShifts() throws ReflectiveOperationException {
         about("Otherwise, the first unknown cell with a mine next to a shown number gives it to the first unknown cell"
             + " without one that is next to no shown number, and it is played anew");
         // The mine is at row 1, column 1: three ones in column 2; column 0 is next to no shown number.
@@ -518,10 +518,17 @@ public final class BoundaryTermsTest {
         due("no cell to take it", 0, desk.make(4, 3, 1, 0, 5, 1));
         dueThrow("there is no board", IllegalStateException.class, () -> desk.count(0));
         about("or this was done 100 times");
-        // No board is known that needs more than these; in some 400 million that were tried none came to 90.
         oftenShifted(12, 12, 42, 2, 903208821, 1, 82);
+        String[] board = {"-x---xx-x---", "xxx-xx-x----", "---xxx-x----", "--xxxxxx----", "----xx--x---", "---xx--x----",
+            "--------x---", "----x-------", "----x-x-----", "------------", "------------", "------------"};
+        due("a board of 100 shifts", 100, PlainDesk.shiftsNeeded(2, 1, board));
+        due("100 shifts", true, Inside.settles(2, 1, board));
+        board[3] = "---xxxxx----";
+        due("a board of 101 shifts", 101, PlainDesk.shiftsNeeded(2, 1, board));
+        due("101 shifts", false, Inside.settles(2, 1, board));
     }
 
+    /** In some hundred million boards that were tried no seed led to 90 shifts, so what is more is tested from inside. */
     private static void oftenShifted(int w, int h, int mines, int shape, int seed, int grade, int shifts) {
         MineDesk desk = new MineDesk();
         PlainDesk plain = new PlainDesk();

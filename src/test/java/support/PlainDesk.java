@@ -39,7 +39,7 @@ final class PlainDesk {
             other.mine[cell] = true;
             free.remove(cell);
         }
-        boolean made = other.settle(first, grade);
+        boolean made = other.settle(first, grade, 100);
         blank(w, h, shape);
         shifts = other.shifts;
         mine = other.mine;
@@ -48,13 +48,13 @@ final class PlainDesk {
         return made ? 1 : 0;
     }
 
-    private boolean settle(int first, int grade) {
+    private boolean settle(int first, int grade, int mostShifts) {
         for (shifts = 0; ; shifts++) {
             Arrays.fill(state, CLOSED);
             opening(first);
             while (openFoundSafe(grade)) { }
             if (count(7) == 1) return true;
-            if (shifts == 100) return false;
+            if (shifts == mostShifts) return false;
             int from = -1, to = -1;
             for (int c = w * h - 1; c >= 0; c--) {
                 boolean nextToNumber = near(c).stream().anyMatch(o -> state[o] == OPEN);
@@ -266,6 +266,14 @@ final class PlainDesk {
         }
         state = kept;
         return n;
+    }
+
+    /** How often a mine is shifted until such a board is made, if that may be done without a limit; or -1. */
+    static int shiftsNeeded(int shape, int grade, String... rows) {
+        PlainDesk desk = new PlainDesk();
+        desk.blank(rows[0].length(), rows.length, shape);
+        for (int c = 0; c < desk.mine.length; c++) desk.mine[c] = rows[c / desk.w].charAt(c % desk.w) == 'x';
+        return desk.settle(desk.h / 2 * desk.w + desk.w / 2, grade, 10000) ? desk.shifts : -1;
     }
 
     /** How often a mine was shifted by the latest make(). */
