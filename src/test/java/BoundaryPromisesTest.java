@@ -648,6 +648,7 @@ public final class BoundaryPromisesTest {
         dueThrow("hit", UNSUPPORTED, () -> ones.share(0, 1, 1, 0));
         ones.flag(0, 0);
         due("flagged", "0/1", Desks.share(ones, 0, 0));
+        // "There is no placement" never comes about: the mines as they are make one.
         about(15, "or the border is too long");
         MineDesk tooLong = corner(9, 9);
         for (int i = 0; i < 8; i++) {
