@@ -13,6 +13,7 @@ import java.util.regex.Pattern;
 /** What of LANGUAGE.md can be seen from outside: the face, the words of the file, sizes, and what calls make. */
 public final class LanguageTest {
     private static final Path PROGRAM = Path.of("src/main/java/MineDesk.java");
+    private static final Path DOCUMENT = Path.of("../shared/DOC.md");
     private static final List<String> FACE = List.of("blank(int,int,int)", "chord(int,int)", "count(int)",
         "edit(int,int,boolean)", "flag(int,int)", "follows(int,int,boolean)", "hint()",
         "make(int,int,int,int,int,int)", "open(int,int)", "permille(int,int)", "reason(int)", "reasonCell(int)",
@@ -26,6 +27,7 @@ public final class LanguageTest {
 
     public static void main(String[] args) throws IOException {
         face();
+        faceAsWritten();
         members();
         words();
         methodsAreShort();
@@ -59,6 +61,23 @@ public final class LanguageTest {
         Constructor<?>[] constructors = MineDesk.class.getDeclaredConstructors();
         due("one constructor", 1, constructors.length);
         due("without parameters", 0, constructors[0].getParameterCount());
+    }
+
+    /** Names of parameters and what each may throw, too, stand as in the document. */
+    private static void faceAsWritten() throws IOException {
+        String document = Files.readString(DOCUMENT);
+        String program = Files.readString(PROGRAM).replaceAll("\\s+", " ");
+        String written = document.substring(document.indexOf("```java") + 7);
+        int told = 0;
+        for (String line : written.substring(0, written.indexOf("```")).split("\n")) {
+            String declared = line.strip();
+            if (!declared.startsWith("public ")) continue;
+            told++;
+            boolean whole = declared.endsWith("{") || declared.contains("=");
+            String due = whole ? declared : declared.replace(";", " {");
+            due(due, true, program.contains(due));
+        }
+        due("what is public", told, program.split("\\bpublic\\b").length - 1);
     }
 
     private static void members() {
